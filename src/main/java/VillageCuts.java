@@ -518,18 +518,11 @@ public final class VillageCuts {
         for (int r = 0; r < readings; r++) {
             int[] counts = readingCuts[r];
             int others = country.sumOf(counts) - village.worthAt(counts[v]);
-            if (others + worthAs(kind, village.valueAt(counts[v])) != readingSums[r]) {
+            if (others + Plain.worthAs(kind, village.valueAt(counts[v])) != readingSums[r]) {
                 return false;
             }
         }
         return true;
-    }
-
-    private static int worthAs(int kind, int value) {
-        if (kind == DOUBLE) {
-            return 2 * value;
-        }
-        return kind == BROAD ? value + 1 : value;
     }
 
     private static int commonDivisor(int one, int other) {
@@ -680,7 +673,7 @@ public final class VillageCuts {
         int got, getter, gotAs;
 
         boolean isAmiss() {
-            return sent > 1 || got > 1 || got > sent || got == 1 && sender == getter;
+            return sent > 1 || got > 1 || got == 1 && (sent == 0 || sender == getter);
         }
 
         boolean isSentIn(int[] counts) {
@@ -724,6 +717,13 @@ public final class VillageCuts {
             return value;
         }
 
+        static int worthAs(int kind, int value) {
+            if (kind == DOUBLE) {
+                return 2 * value;
+            }
+            return kind == BROAD ? value + 1 : value;
+        }
+
         final int worthAt(int count) {
             return worthAs(kind, valueAt(count));
         }
@@ -757,7 +757,6 @@ public final class VillageCuts {
             super(kind);
         }
 
-        @Override
         int toldOf(Trace trace, int value) {
             trace.leave(2);
             return super.toldOf(trace, value) + 100;
@@ -769,14 +768,12 @@ public final class VillageCuts {
             super(DOUBLE);
         }
 
-        @Override
         int toldOf(Trace trace, int value) {
             trace.leave(3);
             int broadly = super.toldOf(trace, value);
             return broadly + toldPlainly(trace, value);
         }
 
-        @Override
         int rungAt(Trace trace, int happened) {
             trace.leave(5);
             return 50;

@@ -71,6 +71,12 @@ public final class CutsTest {
         VillageCuts four = Checks.withLand("v;ps0;pg0s1;pg1s2;pg2");
         cutIs(four, new int[] {0, 0, 0, 1}, 0, 0, 0, 6, 1, 2, 2, 1);
         cutIs(four, new int[] {1, 0, 1, 0}, 0, 0, 1, 4, 1, 2, 1, 0);
+        Checks.due("closed at once", Checks.cut(Checks.withLand("v;ps0;pg0s1;pg1s2;pg2"), 10, 0, 0, 0, 1), 1);
+        // what was told of four villages does not stay behind with two
+        cutIs(four, new int[] {1, 2, 2, 1}, 1, 0, 0, 6, 1, 2, 2, 1);
+        Checks.due("two villages", Checks.landBy(four, "v;pi4;bi4"), 2);
+        cutIs(four, new int[] {0, 0}, 1, 1, 0, 0, 0, 0, -9, -9);
+        cutIs(four, new int[] {1, 0}, 1, 5, 0, 1, 1, 0, -9, -9);
         VillageCuts offset = Checks.withLand("v;pi1;pi2i3");
         Checks.row(offset, 0, 0, 9, 9, 1, 2, 9);
         Checks.due("from 2 on", offset.cut(0, 0, 2, 1), 4);
@@ -207,6 +213,8 @@ public final class CutsTest {
         Checks.due("fault", x.fault(), 0);
         Checks.due("no village", Checks.tale(x, 0, 0, 3), -1);
         Checks.due("no village", Checks.tale(x, 1, 0, -1), -1);
+        Checks.due("no village at first", Checks.tale(x, 1, 3), -1);
+        Checks.due("no village at first", Checks.tale(x, 0, -1, 0), -1);
         Checks.due("no village behind a first wrong", Checks.tale(x, 1, 0, 0, 3), -1);
         Checks.due("no village there", Checks.tale(x, 1, 0, Integer.MIN_VALUE), -1);
     }

@@ -118,6 +118,7 @@ public final class LandTest {
         amiss("v;ps2;ps2", 2);
         amiss("v;ps0g7;pg0g0", 0);
         amiss("v;pg7;pi0", 7);
+        amiss("v;pi0;pg7", 7);
         amiss("v;pg7g3;pi0", 3);
         amiss("v;ps4g4;pi0", 4);
         amiss("v;pg4s4;pi0", 4);

@@ -82,6 +82,7 @@ public final class RunsTest {
         Checks.due("0", shut.some(0), 0);
         Checks.due("-1", shut.some(-1), -2);
         Checks.due("100", shut.some(100), -2);
+        Checks.due("0 never", Checks.withLand("v;bi3s0;pg0").some(0), -9);
         VillageCuts high = Checks.withLand("v;di9;di9;di9;di9");
         Checks.due("72", high.some(72), 4);
         Checks.due("54", high.some(54), 3);

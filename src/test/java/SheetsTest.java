@@ -153,6 +153,11 @@ public final class SheetsTest {
         Checks.due("fault", x.fault(), 1);
         Checks.due("cast", x.copy(0, -1, 2, 0, 0), -12);
         Checks.due("fault", x.fault(), 2);
+        Checks.due("fine", x.copy(0, 0, 0, 0, 1), 1);
+        Checks.due("no fault", x.fault(), 0);
+        x.copy(0, -1, 2, 0, 0);
+        Checks.due("other", x.copy(0, 0, -1, 0, 0), -1);
+        Checks.due("no fault", x.fault(), 0);
         int[][] beyond = {{-1, 0, 0}, {6, 0, 0}, {0, -1, 0}, {0, 4, 0}, {0, 0, -1}, {0, 0, 4}, {3, 0, 3}, {0, 1, 3},
             {5, 0, 1}, {0, 3, 1}, {1, 0, Integer.MAX_VALUE}, {Integer.MAX_VALUE, 0, Integer.MAX_VALUE},
             {0, 0, Integer.MIN_VALUE}};
