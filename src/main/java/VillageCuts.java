@@ -25,8 +25,9 @@ public final class VillageCuts {
     private int readings;
     private int lastFault;
     private Land country = new Land();
-    /** Null until it is asked for: many lands are never surveyed. */
-    private Survey survey;
+    private final Survey survey = new Survey();
+    /** Apart from the survey's making: many lands are never surveyed. */
+    private boolean isSurveyed;
 
     public VillageCuts() {
         for (int k = 0; k < SHEETS; k++) {
@@ -61,7 +62,7 @@ public final class VillageCuts {
             return -300;
         }
         country = found;
-        survey = null;
+        isSurveyed = false;
         readings = 0;
         return country.size;
     }
@@ -506,8 +507,9 @@ public final class VillageCuts {
     }
 
     private Survey surveyed() {
-        if (survey == null) {
-            survey = new Survey(country);
+        if (!isSurveyed) {
+            survey.walk(country);
+            isSurveyed = true;
         }
         return survey;
     }
@@ -985,38 +987,28 @@ public final class VillageCuts {
 
     /**
      * All cuts of a land by their places: a place counts cuts through as an odometer, so that one thing more in a
-     * village lies a fixed stride further on, and behind all cuts that are in it.
+     * village lies a fixed stride further on, and behind all cuts that are in it. Its rows are long enough for any
+     * land and used again by the next one.
      */
     private static final class Survey {
+        private static final int MOST_PLACES = 1296;
+
         private final int[] strides = new int[MOST_VILLAGES];
-        private final int villages;
-        private final int places;
+        private final int[] counts = new int[MOST_VILLAGES];
         /** In how many ways a cut is come to; 0: it can't be. */
-        private final long[] ways;
-        private final int[] sums;
-        private final int[] sizes;
+        private final long[] ways = new long[MOST_PLACES];
+        private final int[] sums = new int[MOST_PLACES];
+        private final int[] sizes = new int[MOST_PLACES];
         /** The villages that go on there, as a set. */
-        private final int[] onward;
-        private final boolean[] reached;
+        private final int[] onward = new int[MOST_PLACES];
+        private final boolean[] reached = new boolean[MOST_PLACES];
+        private int villages;
+        private int places = 1;
 
-        Survey(Land land) {
-            int all = 1;
-            for (int v = 0; v < land.size; v++) {
-                strides[v] = all;
-                all *= land.villages[v].things + 1;
-            }
-            villages = land.size;
-            places = all;
-            ways = new long[all];
-            sums = new int[all];
-            sizes = new int[all];
-            onward = new int[all];
-            reached = new boolean[all];
-            walk(land);
-        }
-
-        private void walk(Land land) {
-            int[] counts = new int[MOST_VILLAGES];
+        void walk(Land land) {
+            measure(land);
+            Arrays.fill(ways, 0);
+            Arrays.fill(counts, 0);
             ways[0] = 1;
             for (int place = 0; place < places; place++) {
                 if (ways[place] > 0) {
@@ -1025,7 +1017,16 @@ public final class VillageCuts {
                     onward[place] = land.thatGoOn(counts);
                     passWays(place);
                 }
-                turn(land, counts);
+                turn(land);
+            }
+        }
+
+        private void measure(Land land) {
+            villages = land.size;
+            places = 1;
+            for (int v = 0; v < villages; v++) {
+                strides[v] = places;
+                places = Math.min(MOST_PLACES, places * (land.villages[v].things + 1));
             }
         }
 
@@ -1042,8 +1043,8 @@ public final class VillageCuts {
         }
 
         /** The next cut of the odometer. */
-        private static void turn(Land land, int[] counts) {
-            for (int v = 0; v < land.size; v++) {
+        private void turn(Land land) {
+            for (int v = 0; v < villages; v++) {
                 if (counts[v] < land.villages[v].things) {
                     counts[v]++;
                     return;

@@ -3,6 +3,22 @@ final class Calls {
     private Calls() {
     }
 
+    /** A call as it is written: put(0, MAX, -1); MAX and MIN are the greatest and the least int. */
+    static long told(VillageCuts x, String text) {
+        int open = text.indexOf('(');
+        String inside = text.substring(open + 1, text.length() - 1);
+        String[] numbers = inside.isEmpty() ? new String[0] : inside.split(", ");
+        int[] a = new int[numbers.length];
+        for (int k = 0; k < a.length; k++) {
+            switch (numbers[k]) {
+                case "MAX": a[k] = Integer.MAX_VALUE; break;
+                case "MIN": a[k] = Integer.MIN_VALUE; break;
+                default: a[k] = Integer.parseInt(numbers[k]);
+            }
+        }
+        return call(x, text.substring(0, open), a);
+    }
+
     static long call(VillageCuts x, String name, int... a) {
         switch (name) {
             case "land": return x.land(a[0], a[1], a[2], a[3]);

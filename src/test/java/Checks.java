@@ -2,6 +2,7 @@
 final class Checks {
     private static int passed = 0;
     private static int failed = 0;
+    private static String heading = "";
 
     private Checks() {
     }
@@ -10,9 +11,18 @@ final class Checks {
         if (got == want) {
             passed++;
         } else {
-            failed++;
-            System.out.println(call + " answered " + got + ", due is " + want);
+            wrong(call + " answered " + got + ", due is " + want);
         }
+    }
+
+    static void wrong(String what) {
+        failed++;
+        System.out.println(heading + what);
+    }
+
+    /** What stands ahead of all that is told as wrong from now on. */
+    static void about(String words) {
+        heading = words;
     }
 
     /** A new sheet of a lane that holds a text from its first cell on. */
