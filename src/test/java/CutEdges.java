@@ -50,6 +50,9 @@ final class CutEdges {
         for (int[] cells : cannot) {
             cutIs(letter, 0, 0, cells);
         }
+        VillageCuts turned = Checks.withLand("v;pg0;ps0");
+        cutIs(turned, 0, 0, 1, 0);
+        cutIs(turned, 0, 1, 0, 1);
         VillageCuts chain = Checks.withLand("v;ps0;pg0s1;pg1s2;pg2");
         cutIs(chain, 0, 1, 1, 2, 2, 1);
         cutIs(chain, 0, 0, 0, 2, 2, 1);

@@ -218,6 +218,11 @@ final class ReadingEdges {
         oddsAre(high, 72, 1, 16);
         oddsAre(high, 73, 0, 1);
         oddsAre(high, 99, 0, 1);
+        VillageCuts most = Checks.withLand("v;pi1i2i3i4i5;bi1i2i3i4i5;di1i2i3i4i5;pi1i2i3i4i5");
+        oddsAre(most, 1, 1, 1);
+        oddsAre(most, 2, 1295, 1296);
+        oddsAre(most, 26, 1, 1296);
+        oddsAre(most, 27, 0, 1);
         Clause.promise(19, "LOST: OUTSIDE");
         String[] outside = {"-1, 0", "100, 0", "MIN, 0", "MAX, 1", "0, -1", "0, 2", "0, MIN", "0, MAX"};
         for (String a : outside) {

@@ -55,6 +55,15 @@ final class RunEdges {
         Clause.due(x, "some(99)", -9);
         Clause.due("the cut that would be so can't be", Checks.withLand("v;pi9s0;pg0i4").some(4), -9);
         Clause.due("nothing is of sum 1", Checks.withLand("v;bi3;pi1").some(0), -9);
+        VillageCuts low = Checks.withLand("v;bi3s0;pg0");
+        Clause.due(low, "some(0)", -9);
+        Clause.due(low, "some(1)", 0);
+        Clause.due(low, "some(4)", 1);
+        VillageCuts before = Checks.withLand("v;pi7i7i7;pi7i7i7");
+        Clause.due(before, "some(14)", 2);
+        Clause.due("another land behind", Checks.landBy(before, "v;ps0i1;pg0i1"), 2);
+        Clause.due("nothing is left of the one before", before.some(14), -9);
+        Clause.due(before, "some(7)", -9);
     }
 
     private static void everyOf() {
@@ -180,6 +189,11 @@ final class RunEdges {
         Clause.due(high, "some(0)", 0);
         Clause.due(high, "some(18)", 1);
         Clause.due(high, "some(72)", 4);
+        VillageCuts most = Checks.withLand(MOST);
+        Clause.due(most, "some(1)", 0);
+        Clause.due(most, "some(25)", 19);
+        Clause.due(most, "some(26)", 20);
+        Clause.due(most, "some(27)", -9);
         Clause.promise(14, "NONE");
         Clause.due(high, "some(73)", -9);
         Clause.due(high, "some(99)", -9);
@@ -202,6 +216,13 @@ final class RunEdges {
             Clause.due("every " + v, high.every(v), 1);
         }
         Clause.due(high, "every(1)", 0);
+        VillageCuts most = Checks.withLand(MOST);
+        Clause.due(most, "every(0)", 0);
+        Clause.due(most, "every(1)", 1);
+        Clause.due(most, "every(2)", 0);
+        Clause.due(most, "every(25)", 0);
+        Clause.due(most, "every(26)", 1);
+        Clause.due(most, "every(27)", 0);
         Clause.due(high, "every(99)", 0);
         Clause.due("not at first", Checks.withLand("v;bi1;pi1").every(0), 0);
         Clause.promise(15, "OUTSIDE");
