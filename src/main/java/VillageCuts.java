@@ -703,20 +703,26 @@ public final class VillageCuts {
         final int[] digit = new int[MOST_THINGS];
         /** Of a thing, how many things of each village are ahead of it: those are always its first ones. */
         final int[][] need = new int[MOST_THINGS][MOST_VILLAGES];
+        /** The value behind that many things, so that no sum has to go through them again. */
+        final int[] values = new int[MOST_THINGS + 1];
         int things;
 
         Plain(int kind) {
             this.kind = kind;
         }
 
-        final int valueAt(int count) {
-            int value = 0;
-            for (int t = 0; t < count && t < things; t++) {
-                if (what[t] == VALUE) {
-                    value = digit[t];
-                }
+        final void add(int newWhat, int newDigit) {
+            if (things >= MOST_THINGS) {
+                return;
             }
-            return value;
+            what[things] = newWhat;
+            digit[things] = newDigit;
+            values[things + 1] = newWhat == VALUE ? newDigit : values[things];
+            things++;
+        }
+
+        final int valueAt(int count) {
+            return values[Math.max(0, Math.min(count, things))];
         }
 
         static int worthAs(int kind, int value) {
@@ -827,9 +833,7 @@ public final class VillageCuts {
             if (what != VALUE) {
                 noteLetter(what, digit, village.things);
             }
-            village.what[village.things] = what;
-            village.digit[village.things] = digit;
-            village.things++;
+            village.add(what, digit);
             things++;
         }
 
@@ -991,6 +995,7 @@ public final class VillageCuts {
      * land and used again by the next one.
      */
     private static final class Survey {
+        /** Of four villages of five things each: 6 times 6 times 6 times 6. */
         private static final int MOST_PLACES = 1296;
 
         private final int[] strides = new int[MOST_VILLAGES];
@@ -1085,14 +1090,19 @@ public final class VillageCuts {
             }
             reached[0] = sums[0] != sum;
             for (int place = 0; place < places; place++) {
-                for (int v = 0; v < villages; v++) {
-                    if (reached[place] && goesOnward(place, v)) {
-                        int next = place + strides[v];
-                        reached[next] = reached[next] || sums[next] != sum;
-                    }
+                if (reached[place]) {
+                    passAround(place, sum);
                 }
             }
             return reached[places - 1];
+        }
+
+        private void passAround(int place, int sum) {
+            for (int v = 0; v < villages; v++) {
+                if (goesOnward(place, v) && sums[place + strides[v]] != sum) {
+                    reached[place + strides[v]] = true;
+                }
+            }
         }
     }
 }
